@@ -5,14 +5,30 @@ final class Check {
 
     private static int wrong;
     private static int checked;
+    private static String sentence = "";
+    private static int checkedBefore;
 
     private Check() {}
+
+    /** What follows is due by these words of the promise with this number, or of a part that it rests on. */
+    static void says(int promise, String words) {
+        endSentence();
+        sentence = "promise " + promise + ", \"" + words + "\": ";
+        checkedBefore = checked;
+    }
+
+    /** A sentence without an answer that tests it would only look tested. */
+    private static void endSentence() {
+        if (sentence.isEmpty() || checked > checkedBefore) return;
+        wrong++;
+        System.out.println(sentence + "nothing was tested");
+    }
 
     static void due(String what, long got, long want) {
         checked++;
         if (got == want) return;
         wrong++;
-        System.out.println(what + ": answered " + got + ", due is " + want);
+        System.out.println(sentence + what + ": answered " + got + ", due is " + want);
     }
 
     static void that(String what, boolean holds) {
@@ -20,6 +36,7 @@ final class Check {
     }
 
     static void end(String test) {
+        endSentence();
         System.out.println(test + ": " + checked + " answers, " + wrong + " wrong");
         if (wrong != 0) System.exit(1);
     }
@@ -72,7 +89,7 @@ final class Check {
         checked++;
         if (got.equals(want)) return;
         wrong++;
-        System.out.println(what + ": answered \"" + got + "\", due is \"" + want + "\"");
+        System.out.println(sentence + what + ": answered \"" + got + "\", due is \"" + want + "\"");
     }
 
     /** The failure, its depth, and the four figures of told(), in one line. */
