@@ -285,13 +285,16 @@ public final class EdgesOfCountsTest {
             x.run(0, 0);
             Check.due("a run for nothing is not in it", x.digest(), before);
         }
-        x = Check.planned("d3;r0;9;");
+        // One number of each Q is saved, so that each limit saves another number.
+        x = Check.planned("xd1;r0;2;r0;9;");
         hash = 17;
-        mix(2, 8, 0, 0, 0, 0, 0, 1);
+        mix(4, 14, 0, 0, 0, 0, 0, 2);
         mix(-1);
-        mix('d', -1, 3, 0, 0, 1);
+        mix('x', -1, 0, 0, 0, 1);
+        mix('d', -1, 1, 0, 1, 1);
+        mix('r', -1, 0, 2, 2, 1);
         mix('r', -1, 0, 9, 1, 1);
-        mixText("d3;r0;9;");
+        mixText("xd1;r0;2;r0;9;");
         mixRules();
         mix(0, Check.NOT_LONG, Check.NOT_LONG, 0, 0, 0, 0, 0, 0);
         mix(3);

@@ -165,6 +165,20 @@ public final class EdgesOfRulesTest {
         both("xvr0;0;", "r0;0;", "11:1");
         both("xr0;0;r0;0;", "r0;0;", "11:1");
         stays("xr0;0;s0", "xr0;0;r0;1;");
+        for (String p : new String[] {"i0;1;", "xus0", "xvs0", "s0"}) {
+            stays("z+" + p + "r0;0;");
+            both("z+r0;0;" + p, "r0;0;", "11:1");
+        }
+        both("xur0;0;", "r0;0;", "11:1");
+        for (String pipe : new String[] {"l7r0;0;", "?<5;r0;0;", "w>5;r0;0;", "z*r0;0;s1", "/9;r0;0;", "xvr0;0;"}) {
+            StreamFuser x = Check.planned(pipe);
+            x.tidy(0);
+            int[] nil = {'r', -1, 0, 0, 0, 1};
+            for (int what = 0; what <= 5; what++) {
+                Check.due("node(0, " + what + ") of nil from " + pipe, x.node(0, what), nil[what]);
+            }
+            Check.due("nodes of nil from " + pipe, x.count(0), 1);
+        }
 
         Check.says(8, "12: c whose P is nil: its Q; c whose Q is nil: its P.");
         both("cr0;0;s1", "s1", "12:1");
@@ -274,6 +288,8 @@ public final class EdgesOfRulesTest {
             for (int other = 0; other <= 12; other++) {
                 Check.due("rules(" + other + ") of " + pipes[k], x.rules(other), other == k ? 1 : 0);
             }
+            x.tidy(0);
+            Check.due("rules(" + k + ") when there is nothing left to do", x.rules(k), 0);
         }
 
         Check.says(9, "Returns the number, 0 if there was no such call; BAD if k is out of range.");

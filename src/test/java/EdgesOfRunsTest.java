@@ -353,6 +353,15 @@ public final class EdgesOfRunsTest {
         Ran.due("+1;/1;r0;1;", 0, 9, "", "1 0 1 3 0 0");
         Ran.due("z+r0;1;s0", 0, 9, "", "2 0 1 3 0 0");
         Ran.due("d3;cr0;1;s0", 0, 9, "", "2 0 1 6 0 0");
+        Check.says(11, "the run ends when the plan has none left, or with a failure");
+        Ran.due("cs0r5;6;", 0, 9, "", "2 0 0 2 0 0");
+        Ran.due("c/1;r0;1;r5;6;", 0, 9, "", "1 0 1 3 0 0");
+        Ran.due("ccs0r5;6;r7;8;", 0, 9, "", "2 0 0 3 0 0");
+        Ran.due("xcs0r5;6;r0;3;", 0, 9, "", "2 1 1 4 0 0");
+        Ran.due("xs0r0;3;", 0, 9, "", "2 1 1 3 0 0");
+        Ran.due("xvs0", 0, 9, "", "2 0 0 2 0 0");
+        Ran.due("?<9;s0", 0, 9, "", "2 0 0 2 0 0");
+        Ran.due("z+s0r0;9;", 0, 9, "", "2 0 0 2 0 0");
     }
 
     // ---- way 1
@@ -423,6 +432,11 @@ public final class EdgesOfRunsTest {
         Ran.due("r0;0;", 1, 1, "", "0 0 0 1 0 0");
         Ran.due("s0", 1, 1, "", "2 0 0 1 0 0");
         Ran.due("/1;r0;1;", 1, 1, "", "1 0 1 1 0 0");
+        Ran.due("cs0r5;6;", 1, 9, "", "2 0 0 1 0 0");
+        Ran.due("ccs0r5;6;r7;8;", 1, 9, "", "2 0 0 1 0 0");
+        Ran.due("xcs0r5;6;r0;3;", 1, 9, "", "2 1 1 2 0 0");
+        Ran.due("xvs0", 1, 9, "", "2 0 0 1 0 0");
+        Ran.due("z+s0r0;9;", 1, 9, "", "2 0 0 1 0 0");
     }
 
     // ---- way 2

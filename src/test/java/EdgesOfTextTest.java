@@ -269,6 +269,14 @@ public final class EdgesOfTextTest {
         x.fault();
         Check.due("asked again", x.fault(), StreamFuser.NONE);
         Check.due("the text stays", x.count(1), 2);
+        for (String faulty : new String[] {"c", "cs0", "xc", "xu", "z+", "r0", "s0s0", "!", BEGUN_40, "c".repeat(40)}) {
+            x = Check.typed(faulty);
+            x.fault();
+            Check.retype(x, "s0");
+            Check.due("behind the fault of " + faulty, x.fault(), StreamFuser.NONE);
+            Check.retype(x, "u");
+            Check.due("behind the pipe", x.fault(), 0);
+        }
 
         Check.says(4, "The text has at most 40 bytes and is empty at first.");
         Check.due("empty", new StreamFuser().fault(), 0);
