@@ -1,66 +1,9 @@
 /** Long runs of calls, the same ones to StreamFuser and to the Model: every answer must be the same. */
 public final class ModelTest {
-    // A row of numbers that is the same each time.
-    private static long state = 20261119L;
+    private static Pipes pipes = new Pipes(20261119L);
 
     private static int below(int n) {
-        state = state * 6364136223846793005L + 1442695040888963407L;
-        return (int) ((state >>> 33) % n);
-    }
-
-    private static String pick(String of) {
-        int i = below(of.length());
-        return of.substring(i, i + 1);
-    }
-
-    private static String number(int most, boolean negative) {
-        int n = below(6) == 0 ? below(most + 1) : below(Math.min(most + 1, 13));
-        return (negative && n > 0 && below(3) == 0 ? "-" : "") + n + ";";
-    }
-
-    private static String whole() {
-        return (below(6) == 0 ? 1 + below(9999) : 1 + below(4)) + ";";
-    }
-
-    private static String producer(boolean opened) {
-        if (opened && below(3) > 0) return pick("uv");
-        switch (below(6)) {
-            case 0: return "s" + below(4);
-            case 1: return "i" + number(9999, true) + number(9999, true);
-            case 2: return "r0;" + below(70) + ";";
-            case 3: return "r" + number(99, true) + number(99, true);
-            default: return "r0;" + below(9) + ";";
-        }
-    }
-
-    private static String pipe(int depth, boolean opened) {
-        if (depth == 0) return producer(opened);
-        String p = pipe(depth - 1, opened);
-        switch (below(15)) {
-            case 0: return pick("+*") + number(9999, true) + p;
-            case 1: return "/" + number(9999, true) + p;
-            case 2: return "%" + whole() + p;
-            case 3: return "l" + below(10) + p;
-            case 4: return "?" + pick("<>=") + number(99, true) + p;
-            case 5: return "k" + whole() + p;
-            case 6: return "w" + pick("<>=") + number(99, true) + p;
-            case 7: case 8: return "t" + number(99, false) + p;
-            case 9: case 10: return "d" + number(99, false) + p;
-            case 11: return "c" + p + pipe(below(depth), opened);
-            case 12: return "z" + pick("+*<") + p + pipe(below(depth), opened);
-            default: return "x" + pipe(below(depth), true) + p;
-        }
-    }
-
-    private static final String BYTES = "rrisuvcxzz+*/%lk?wtd<>=--0123456789;;;;;";
-
-    private static String text() {
-        String made = pipe(below(8), false);
-        for (int i = 0; i < 20 && made.length() > 40; i++) made = pipe(below(8), false);
-        if (below(5) > 0) return made;
-        int cut = below(made.length() + 1);
-        String rest = below(2) == 0 || cut == made.length() ? "" : made.substring(cut + 1);
-        return made.substring(0, cut) + (below(4) == 0 ? "" : pick(BYTES)) + rest;
+        return pipes.below(n);
     }
 
     private int session;
@@ -110,7 +53,7 @@ public final class ModelTest {
         int n = below(10) == 0 ? below(80) - 10 : below(12);
         int i = below(20) == 0 ? Integer.MAX_VALUE - below(2) : below(13) - 1;
         int j = below(13) - 1;
-        int v = below(4) == 0 ? (int) (state >>> 20) : below(20) - 6;
+        int v = below(4) == 0 ? pipes.any() : below(20) - 6;
         switch (below(9)) {
             case 0: case 1: due("sheet", x.sheet(s, form, n), y.sheet(s, form, n)); break;
             case 2: if (below(3) == 0) due("lose", x.lose(s), y.lose(s)); break;
@@ -132,7 +75,7 @@ public final class ModelTest {
     private void play() {
         for (int turn = 0; turn < 600 && call < 508; turn++) {
             switch (below(10)) {
-                case 0: case 1: type(text()); break;
+                case 0: case 1: type(pipes.text()); break;
                 case 2: case 3: case 4: runs(); break;
                 case 5: due("tidy", x.tidy(turn % 2), y.tidy(turn % 2)); break;
                 case 6: case 7: doSheet(); break;
@@ -144,7 +87,7 @@ public final class ModelTest {
 
     public static void main(String[] args) {
         int sessions = args.length > 0 ? Integer.parseInt(args[0]) : 150;
-        if (args.length > 1) state = Long.parseLong(args[1]);
+        if (args.length > 1) pipes = new Pipes(Long.parseLong(args[1]));
         for (int i = 0; i < sessions; i++) {
             ModelTest test = new ModelTest();
             test.session = i;

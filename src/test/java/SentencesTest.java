@@ -24,7 +24,8 @@ public final class SentencesTest {
         "n is the number of this node, m that of the t within it, a and b those of the r or i within it",
         "There are four sheets, 0 to 3", "An error is reported by the return value",
         "Returns the fault of the text", "Returns a property of a node of the plan", "Executes a run",
-        "Returns a count", "Returns the count", "Returns a hash"
+        "Returns a count", "Returns the count", "Returns a hash",
+        "Stream fusion", "what later calls answer is free", "NONE"
     );
 
     /** Words of a test, and the promise that it says. */
@@ -110,7 +111,9 @@ public final class SentencesTest {
             return;
         }
         String document = Files.readString(DOCUMENT);
-        String parts = between(document, "\n## Description\n", "\nExamples:");
+        String parts = between(document, "\n## What it is\n", "\n## The public face\n")
+            + between(document, "\n## Description\n", "\nExamples:")
+            + between(document, "\nThe constants:\n", "\nThe constructor and the methods follow");
         String[] promises = new String[25];
         List<Quote> quotes = quotes();
         for (int k = 1; k <= 24; k++) {
